@@ -952,12 +952,9 @@ public final class FlipPolygons {
             Arrays.fill(flips, NONE);
             Arrays.fill(ways, 0);
             int start = graph.indexOf(fromMask);
-            if (start >= 0 && start < flips.length) {
-                spreadFrom(start);
+            if (start < 0 || start >= flips.length) {
+                return;
             }
-        }
-
-        private void spreadFrom(int start) {
             flips[start] = 0;
             ways[start] = 1;
             queue[0] = start;

@@ -158,6 +158,8 @@ public final class PromiseTests {
         due("present", x.triangulation(0, 0), 32 + 128 + 256);
         due("flips", x.count(5), 0);
         due("saved states", x.count(9), 4);
+        due("fan(1, 2), which the goal is", x.fan(1, 2), 3);
+        due("fan(0, 2), which the present one is not", x.fan(0, 2), 1);
         CHECKS.dueThrow(x, "fan(2, 0)", Checks.INDEX, () -> x.fan(2, 0));
         CHECKS.dueThrow(x, "fan(-1, 0)", Checks.INDEX, () -> x.fan(-1, 0));
         CHECKS.dueThrow(x, "fan(0, 6)", Checks.INDEX, () -> x.fan(0, 6));
@@ -646,6 +648,13 @@ public final class PromiseTests {
         due("no ways", x.distance(3), 0);
         due("no next flip", x.distance(4), NONE);
         FlipPolygons same = new FlipPolygons();
+        same.lock(0, 2, true);
+        due("the goal, 02 locked", same.distance(0), 0);
+        same.lock(0, 2, false);
+        same.flip(0, 0, 2);
+        same.lock(0, 3, true);
+        due("one flip from the goal, 03 locked", same.distance(0), 1);
+        same.walk(1);
         same.lock(0, 2, true);
         same.lock(0, 3, true);
         same.lock(0, 4, true);
