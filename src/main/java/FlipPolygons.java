@@ -527,7 +527,8 @@ public final class FlipPolygons {
     }
 
     private double shareOfWay() {
-        return (double) freeDistance() / (double) now.graph.diameter;
+        int most = now.graph.diameter;
+        return most > 0 ? (double) freeDistance() / (double) most : 0.0;
     }
 
     // ---- the free distance by parts
@@ -852,14 +853,18 @@ public final class FlipPolygons {
 
         FlipGraph(Polygon ofPolygon) {
             polygon = ofPolygon;
-            int at = ofPolygon.corners - LEAST_CORNERS;
-            triangulations = TRIANGULATIONS[at];
-            classes = CLASSES[at];
-            diameter = DIAMETERS[at];
+            triangulations = ofCorners(TRIANGULATIONS, ofPolygon.corners);
+            classes = ofCorners(CLASSES, ofPolygon.corners);
+            diameter = ofCorners(DIAMETERS, ofPolygon.corners);
             flipsOfEach = ofPolygon.corners - 3;
             masks = new int[triangulations];
             neighbors = new int[triangulations * flipsOfEach];
             slots = new int[slotsFor(triangulations)];
+        }
+
+        private static int ofCorners(int[] table, int corners) {
+            int at = corners - LEAST_CORNERS;
+            return at >= 0 && at < table.length ? table[at] : 0;
         }
 
         /** A power of two, so that half of the slots at least stay empty and searches short. */
@@ -900,7 +905,13 @@ public final class FlipPolygons {
 
         /** What comes of a flip, the flips of each in the order of their diagonals. */
         int neighborOf(int index, int flip) {
-            return neighbors[index * flipsOfEach + flip];
+            int at = index * flipsOfEach + flip;
+            return at >= 0 && at < neighbors.length ? neighbors[at] : NONE;
+        }
+
+        /** 0 if there is no such index. */
+        int maskAt(int index) {
+            return index >= 0 && index < masks.length ? masks[index] : 0;
         }
 
         /** NONE if there is no such triangulation. */
@@ -967,7 +978,7 @@ public final class FlipPolygons {
         /** Goes one flip on, and returns how many triangulations have been reached then. */
         private int spreadOn(int from, int before) {
             int queued = before;
-            int rest = graph.masks[from];
+            int rest = graph.maskAt(from);
             for (int flip = 0; flip < graph.flipsOfEach && rest != 0; flip++) {
                 int bit = rest & -rest;
                 rest ^= bit;
@@ -1000,7 +1011,7 @@ public final class FlipPolygons {
 
         int farthest() {
             int most = 0;
-            for (int at = 0; at < graph.triangulations; at++) {
+            for (int at = 0; at < flips.length; at++) {
                 most = Math.max(most, flips[at]);
             }
             return most;
@@ -1009,9 +1020,10 @@ public final class FlipPolygons {
         int leastFarthest() {
             int most = farthest();
             int least = NONE;
-            for (int at = 0; at < graph.triangulations; at++) {
-                if (flips[at] == most && (least == NONE || graph.masks[at] < least)) {
-                    least = graph.masks[at];
+            for (int at = 0; at < flips.length; at++) {
+                int mask = graph.maskAt(at);
+                if (flips[at] == most && (least == NONE || mask < least)) {
+                    least = mask;
                 }
             }
             return least;

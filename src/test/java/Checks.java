@@ -1,8 +1,15 @@
+import java.util.function.Supplier;
+
 /** Counts and prints the answers that are not due. */
 final class Checks {
     /** A call that may throw. */
     interface Call {
         long answer();
+    }
+
+    /** A call of an object, which may throw. */
+    interface CallOf {
+        long answer(FlipPolygons x);
     }
 
     static final String INDEX = "IndexOutOfBoundsException";
@@ -35,6 +42,16 @@ final class Checks {
         long before = object.digest();
         due(name, outcome(call), exception);
         due("digest() after " + name, object.digest(), before);
+    }
+
+    /**
+     * Checks that the call throws just this exception, and that afterwards nothing at all can be
+     * told from a twin of the object that was not called.
+     */
+    void dueRefusal(Supplier<FlipPolygons> scene, String name, String exception, CallOf call) {
+        FlipPolygons object = scene.get();
+        due(name, outcome(() -> call.answer(object)), exception);
+        due("all that is seen after " + name, Scenes.deepLook(object), Scenes.deepLook(scene.get()));
     }
 
     /** The answer as a text, or the simple name of what the call throws. */

@@ -47,26 +47,6 @@ public final class PromiseTests {
         CHECKS.due(call, got, want);
     }
 
-    private static void type(FlipPolygons x, String text) {
-        for (int at = 0; at < text.length(); at++) {
-            x.append(text.charAt(at));
-        }
-    }
-
-    private static FlipPolygons polygon(int n, String present, String goal) {
-        FlipPolygons x = new FlipPolygons();
-        x.begin(n);
-        put(x, 0, present);
-        put(x, 1, goal);
-        return x;
-    }
-
-    private static void put(FlipPolygons x, int which, String text) {
-        x.clearBuffer();
-        type(x, text);
-        x.read(which);
-    }
-
     private static void newObject() {
         CHECKS.about("promise 1");
         FlipPolygons x = new FlipPolygons();
@@ -88,7 +68,7 @@ public final class PromiseTests {
         x.flip(0, 0, 2);
         x.flip(1, 0, 4);
         x.lock(0, 3, true);
-        type(x, "02");
+        Scenes.type(x, "02");
         due("begin(5)", x.begin(5), 6);
         due("n", x.count(0), 5);
         due("present", x.triangulation(0, 0), 3);
@@ -281,7 +261,7 @@ public final class PromiseTests {
         CHECKS.about("promise 11");
         FlipPolygons x = new FlipPolygons();
         due("clearBuffer() when empty", x.clearBuffer(), 0);
-        type(x, "02,!");
+        Scenes.type(x, "02,!");
         due("clearBuffer()", x.clearBuffer(), 4);
         due("clearBuffer() again", x.clearBuffer(), 0);
         due("saved states", x.count(9), 0);
@@ -290,7 +270,7 @@ public final class PromiseTests {
     private static void dueError(int n, String text, int want) {
         FlipPolygons x = new FlipPolygons();
         x.begin(n);
-        type(x, text);
+        Scenes.type(x, text);
         due("firstError() of " + text + " for " + n, x.firstError(), want);
         due("firstError() again", x.firstError(), want);
         due("the length stays", x.clearBuffer(), text.length());
@@ -338,14 +318,14 @@ public final class PromiseTests {
         dueError(9, "7", 0);
         dueError(9, "69", 1);
         FlipPolygons x = new FlipPolygons();
-        type(x, "02,26");
+        Scenes.type(x, "02,26");
         due("firstError() for 6", x.firstError(), 4);
         x.begin(7);
         due("firstError() for 7", x.firstError(), 5);
         x.begin(4);
         due("firstError() for 4", x.firstError(), 2);
         x.clearBuffer();
-        type(x, "!".repeat(60));
+        Scenes.type(x, "!".repeat(60));
         due("firstError() of 60 characters", x.firstError(), 0);
     }
 
@@ -353,13 +333,13 @@ public final class PromiseTests {
         CHECKS.about("promise 13");
         FlipPolygons x = new FlipPolygons();
         x.lock(0, 2, true);
-        type(x, "24,02,25");
+        Scenes.type(x, "24,02,25");
         due("read(1)", x.read(1), 1 + 64 + 128);
         due("goal", x.triangulation(1, 0), 1 + 64 + 128);
         due("present", x.triangulation(0, 0), 7);
         due("the locks stay for the goal", x.count(7), 1);
         due("the buffer is cleared", x.clearBuffer(), 0);
-        type(x, "02,24,04");
+        Scenes.type(x, "02,24,04");
         due("read(0)", x.read(0), 1 + 4 + 64);
         due("the locks are gone", x.count(7), 0);
         due("saved states", x.count(9), 3);
@@ -368,17 +348,17 @@ public final class PromiseTests {
         due("the lock is back", x.count(7), 1);
         due("the buffer is not", x.clearBuffer(), 0);
         x.begin(4);
-        type(x, "13");
+        Scenes.type(x, "13");
         due("read(0) for 4", x.read(0), 2);
         x.begin(9);
-        type(x, "13,35,57,17,37,18");
+        Scenes.type(x, "13,35,57,17,37,18");
         due("read(1) for 9", x.read(1), 17435712);
     }
 
     private static void dueRead(int n, String text, String exception) {
         FlipPolygons x = new FlipPolygons();
         x.begin(n);
-        type(x, text);
+        Scenes.type(x, text);
         CHECKS.dueThrow(x, "read(0) of " + text, exception, () -> x.read(0));
         CHECKS.dueThrow(x, "read(1) of " + text, exception, () -> x.read(1));
         CHECKS.dueThrow(x, "read(2) of " + text, Checks.INDEX, () -> x.read(2));
@@ -439,7 +419,7 @@ public final class PromiseTests {
         CHECKS.dueThrow(x, "restore(-1)", Checks.INDEX, () -> x.restore(-1));
         x.begin(9);
         x.flip(0, 0, 2);
-        type(x, "02");
+        Scenes.type(x, "02");
         due("restore(1)", x.restore(1), 6);
         due("n", x.count(0), 6);
         due("present", x.triangulation(0, 0), 1 + 4 + 64);
@@ -463,7 +443,7 @@ public final class PromiseTests {
         CHECKS.dueThrow(x, "undo() of nothing", Checks.STATE, x::undo);
         x.flip(0, 0, 2);
         x.flip(1, 0, 4);
-        type(x, "0");
+        Scenes.type(x, "0");
         x.take(0);
         due("undo()", x.undo(), 1);
         due("goal", x.triangulation(1, 0), 7);
@@ -491,7 +471,7 @@ public final class PromiseTests {
     /** Each undoable call saves one state, also if it changes nothing; its undo brings all back. */
     private static void undoOfEach() {
         CHECKS.about("promise 16");
-        FlipPolygons x = polygon(7, "02,24,46,04", "02,03,04,05");
+        FlipPolygons x = Scenes.polygon(7, "02,24,46,04", "02,03,04,05");
         x.take(0);
         x.flip(0, 0, 2);
         x.lock(0, 4, true);
@@ -540,7 +520,7 @@ public final class PromiseTests {
 
     private static void triangulation() {
         CHECKS.about("promise 18");
-        FlipPolygons x = polygon(6, "24,04,02", "35,03,02");
+        FlipPolygons x = Scenes.polygon(6, "24,04,02", "35,03,02");
         // a triangle: three turns and three mirrorings keep it; its turn by 1 is 13, 35, 15
         dueNumbers(x, 0, 69, 69, 6, 3, 2);
         // a zigzag: it is itself after half a turn; only mirrored it becomes 03, 04, 13
@@ -551,10 +531,10 @@ public final class PromiseTests {
         due("the goal's greatest degree", x.triangulation(1, 4), 2);
         x.fan(0, 3);
         dueNumbers(x, 0, 2 + 8 + 256, 7, 2, 2, 3);
-        FlipPolygons square = polygon(4, "13", "02");
+        FlipPolygons square = Scenes.polygon(4, "13", "02");
         dueNumbers(square, 0, 2, 1, 4, 2, 1, 1, 1);
         dueNumbers(square, 1, 1, 1, 4, 2, 1, 1, 2);
-        FlipPolygons pentagon = polygon(5, "02,03", "13,14");
+        FlipPolygons pentagon = Scenes.polygon(5, "02,03", "13,14");
         // of the ring 02,03 - 03,13 - 13,14 - 14,24 - 02,24 two are two flips away
         dueNumbers(pentagon, 0, 3, 3, 2, 2, 2, 2, 12);
         square.lock(1, 3, true);
@@ -567,7 +547,7 @@ public final class PromiseTests {
 
     private static void degree() {
         CHECKS.about("promise 19");
-        FlipPolygons x = polygon(6, "02,03,35", "02,24,04");
+        FlipPolygons x = Scenes.polygon(6, "02,03,35", "02,24,04");
         int[] present = {2, 0, 1, 2, 0, 1};
         for (int corner = 0; corner < 6; corner++) {
             due("degree(0, " + corner + ")", x.degree(0, corner), present[corner]);
@@ -581,7 +561,7 @@ public final class PromiseTests {
 
     private static void other() {
         CHECKS.about("promise 20");
-        FlipPolygons x = polygon(6, "02,03,04", "13,14,15");
+        FlipPolygons x = Scenes.polygon(6, "02,03,04", "13,14,15");
         x.lock(0, 2, true);
         due("other(0, 0, 2), locked", x.other(0, 0, 2), 3);
         due("other(0, 0, 3)", x.other(0, 0, 3), 6);
@@ -623,9 +603,9 @@ public final class PromiseTests {
         // 02 and 04 lie apart from each other; both orders of their flips are ways
         x.fan(0, 0);
         dueDistances(x, 2, 2, 2, 2, 0, 1);
-        FlipPolygons square = polygon(4, "13", "02");
+        FlipPolygons square = Scenes.polygon(4, "13", "02");
         dueDistances(square, 1, 1, 1, 1, 1, 0);
-        FlipPolygons pentagon = polygon(5, "02,03", "14,24");
+        FlipPolygons pentagon = Scenes.polygon(5, "02,03", "14,24");
         // the five triangulations are a ring: 02,03 - 03,13 - 13,14 - 14,24 - 02,24
         dueDistances(pentagon, 2, 2, 2, 1, 1, 0);
         for (int what : new int[] {-1, 6, Integer.MAX_VALUE}) {
@@ -635,7 +615,7 @@ public final class PromiseTests {
 
     private static void distanceWithLocks() {
         CHECKS.about("promise 22");
-        FlipPolygons x = polygon(6, "02,03,04", "03,13,35");
+        FlipPolygons x = Scenes.polygon(6, "02,03,04", "03,13,35");
         x.lock(0, 3, true);
         dueDistances(x, 2, 2, 2, 2, 0, 1);
         due("whyNot", x.whyNot(0, 3), 2);
@@ -664,17 +644,17 @@ public final class PromiseTests {
     private static void distanceByParts() {
         CHECKS.about("promise 22");
         // 03 and 36 and 06 cut three quadrangles off, each one flip away
-        FlipPolygons x = polygon(9, "02,03,35,36,68,06", "13,03,46,36,07,06");
+        FlipPolygons x = Scenes.polygon(9, "02,03,35,36,68,06", "13,03,46,36,07,06");
         dueDistances(x, 3, 3, 3, 6, 0, 3);
         // two pentagons on both sides of 04, each two flips away: 2 over 4 orders of the flips
-        FlipPolygons y = polygon(8, "04,02,03,46,47", "04,14,24,57,05");
+        FlipPolygons y = Scenes.polygon(8, "04,02,03,46,47", "04,14,24,57,05");
         dueDistances(y, 4, 4, 4);
         due("diagonals that both have", y.distance(5), 1);
     }
 
     private static void ifFlipped() {
         CHECKS.about("promise 23");
-        FlipPolygons x = polygon(6, "02,03,04", "03,13,35");
+        FlipPolygons x = Scenes.polygon(6, "02,03,04", "03,13,35");
         due("ifFlipped(0, 2)", x.ifFlipped(0, 2), 1);
         due("ifFlipped(0, 4)", x.ifFlipped(0, 4), 1);
         due("ifFlipped(0, 3), away from the goal", x.ifFlipped(0, 3), 3);
@@ -728,67 +708,43 @@ public final class PromiseTests {
         CHECKS.isTrue("farShare() is a half", x.farShare() == 0.5);
         x.lock(0, 2, true);
         CHECKS.isTrue("farShare() is free", x.farShare() == 0.5);
-        FlipPolygons nine = polygon(9, "02,03,35,36,68,06", "13,03,46,36,07,06");
+        FlipPolygons nine = Scenes.polygon(9, "02,03,35,36,68,06", "13,03,46,36,07,06");
         CHECKS.isTrue("farShare() is 3 of 9", nine.farShare() == 3.0 / 9.0);
-        FlipPolygons square = polygon(4, "13", "02");
+        FlipPolygons square = Scenes.polygon(4, "13", "02");
         CHECKS.isTrue("farShare() is 1", square.farShare() == 1.0);
-    }
-
-    /** The digest told from the answers of all other calls. */
-    private static long digestOf(FlipPolygons x, String buffer) {
-        long hash = 2477;
-        for (int what = 0; what <= 9; what++) {
-            hash = 31 * hash + x.count(what);
-        }
-        for (int which = 0; which <= 1; which++) {
-            for (int what = 0; what <= 6; what++) {
-                hash = 31 * hash + x.triangulation(which, what);
-            }
-            for (int corner = 0; corner < x.count(0); corner++) {
-                hash = 31 * hash + x.degree(which, corner);
-            }
-        }
-        for (int what = 0; what <= 5; what++) {
-            hash = 31 * hash + x.distance(what);
-        }
-        for (String diagonal : PlainModel.diagonals(x.count(0))) {
-            int a = diagonal.charAt(0) - '0';
-            int b = diagonal.charAt(1) - '0';
-            hash = 31 * hash + x.other(0, a, b);
-            hash = 31 * hash + x.other(1, a, b);
-            hash = 31 * hash + x.whyNot(a, b);
-            hash = 31 * hash + x.ifFlipped(a, b);
-        }
-        hash = 31 * hash + Double.doubleToLongBits(x.farShare());
-        hash = 31 * hash + buffer.length();
-        for (char code : buffer.toCharArray()) {
-            hash = 31 * hash + code;
-        }
-        return hash;
     }
 
     private static void digest() {
         CHECKS.about("promise 26");
         FlipPolygons x = new FlipPolygons();
-        due("digest() of a new object", x.digest(), digestOf(x, ""));
-        due("digest() changes nothing", x.digest(), digestOf(x, ""));
-        type(x, "02,~");
+        due("digest() of a new object", x.digest(), Scenes.digestOf(x, ""));
+        due("digest() changes nothing", x.digest(), Scenes.digestOf(x, ""));
+        Scenes.type(x, "02,~");
         x.lock(0, 3, true);
         x.fan(1, 4);
         x.take(0);
-        due("digest()", x.digest(), digestOf(x, "02,~"));
-        // every share that there is: i flips of the greatest distance for each n
+        due("digest()", x.digest(), Scenes.digestOf(x, "02,~"));
         for (int n = 4; n <= 9; n++) {
-            FlipPolygons y = new FlipPolygons();
-            y.begin(n);
-            put(y, 1, farText(y, n));
-            int steps = y.distance(1);
-            due("the eccentricity", steps, y.triangulation(0, 5));
-            for (int left = steps; left >= 0; left--) {
-                due("flips left", y.distance(0), left);
-                due("digest() for " + n, y.digest(), digestOf(y, ""));
-                y.walk(1);
+            digestOfEachShare(n);
+        }
+    }
+
+    /** Every share that there is: i flips of the greatest distance; an object has 512 calls. */
+    private static void digestOfEachShare(int n) {
+        FlipPolygons first = new FlipPolygons();
+        first.begin(n);
+        String far = farText(first, n);
+        int steps = first.triangulation(0, 5);
+        for (int made = 0; made <= steps; made++) {
+            FlipPolygons x = new FlipPolygons();
+            x.begin(n);
+            Scenes.put(x, 1, far);
+            due("the eccentricity", x.distance(1), steps);
+            if (made > 0) {
+                x.walk(made);
             }
+            due("flips left", x.distance(0), steps - made);
+            due("digest() for " + n, x.digest(), Scenes.digestOf(x, ""));
         }
     }
 
